@@ -760,25 +760,17 @@ public final class BeckChoice {
             while (at < length && isLetter(text[at])) {
                 at++;
             }
-            for (int w = 0; w < KNOWN_WORDS; w++) {
-                if (spells(w)) {
+            int letters = at - place;
+            for (int w = 0; w < KNOWN_WORDS && letters <= SLOT; w++) {
+                int same = 0;
+                while (same < SLOT && WORDS.charAt(w * SLOT + same) == (same < letters ? text[place + same] : ' ')) {
+                    same++;
+                }
+                if (same == SLOT) {
                     return w;
                 }
             }
             return OTHER_WORD;
-        }
-
-        private boolean spells(int w) {
-            if (at - place > SLOT) {
-                return false;
-            }
-            for (int i = 0; i < SLOT; i++) {
-                int c = place + i < at ? text[place + i] : ' ';
-                if (WORDS.charAt(w * SLOT + i) != c) {
-                    return false;
-                }
-            }
-            return true;
         }
 
         boolean sees(int wanted) {
@@ -1077,7 +1069,6 @@ public final class BeckChoice {
 
         private final int[] variables = new int[VARIABLES];
         private final int[] parts = new int[DEPTH];
-        private int top;
 
         void setBeck(int beck, int flow, int mark) {
             variables[0] = beck;
@@ -1091,72 +1082,56 @@ public final class BeckChoice {
             variables[5] = gifts;
         }
 
+        /** One loop without calls for most cells: laws are run more often than anything else here. */
         int value(int[] code, int start) {
             if (start < 0) {
                 return UNTOLD;
             }
-            top = 0;
             int at = start;
-            for (int step = 0; step < TEXT_MOST && at >= 0 && at < code.length && code[at] != STOP; step++) {
-                at = run(code[at], at + 1);
+            int top = 0;
+            for (int step = 0; step < TEXT_MOST && at < code.length; step++) {
+                int cell = code[at];
+                at++;
+                if (cell < JUMP && top < DEPTH) {
+                    parts[top] = cell < VARIABLE ? cell : valueOf(cell - VARIABLE);
+                    top++;
+                } else if (cell >= PLUS && top > 1) {
+                    top--;
+                    parts[top - 1] = joined(cell, parts[top - 1], parts[top]);
+                } else if (cell == NOT && top > 0) {
+                    parts[top - 1] = 1 - parts[top - 1];
+                } else if (cell >= JUMP_UNLESS && cell < STOP && top > 0) {
+                    top--;
+                    at = parts[top] == 0 ? cell - JUMP_UNLESS : at;
+                } else if (cell >= JUMP && cell < JUMP_UNLESS) {
+                    at = cell - JUMP;
+                } else {
+                    break;
+                }
             }
-            return pop();
+            return top > 0 ? parts[top - 1] : 0;
         }
 
-        /** Does one cell, and tells which comes then. */
-        private int run(int cell, int next) {
-            int operand = cell % STEP;
-            switch (cell - operand) {
-                case CONSTANT:
-                    push(operand);
-                    return next;
-                case VARIABLE:
-                    push(operand < VARIABLES ? variables[operand] : 0);
-                    return next;
-                case JUMP:
-                    return operand;
-                case JUMP_UNLESS:
-                    return pop() == 0 ? operand : next;
-                case NOT:
-                    push(1 - pop());
-                    return next;
-                default:
-                    int right = pop();
-                    push(joined(cell, pop(), right));
-                    return next;
-            }
+        private int valueOf(int variable) {
+            return variable < VARIABLES ? variables[variable] : 0;
         }
 
         private static int joined(int join, int left, int right) {
-            switch (join) {
-                case PLUS: return kept((long) left + right);
-                case MINUS: return kept((long) left - right);
-                case TIMES: return kept((long) left * right);
-                case EQUAL: return left == right ? 1 : 0;
-                case LESS: return left < right ? 1 : 0;
-                case MORE: return left > right ? 1 : 0;
-                case AND: return left & right;
+            long v;
+            switch (join / STEP) {
+                case PLUS / STEP: v = left + right; break;
+                case MINUS / STEP: v = left - right; break;
+                case TIMES / STEP: v = (long) left * right; break;
+                case EQUAL / STEP: return left == right ? 1 : 0;
+                case LESS / STEP: return left < right ? 1 : 0;
+                case MORE / STEP: return left > right ? 1 : 0;
+                case AND / STEP: return left & right;
                 default: return left | right;
             }
-        }
-
-        private static int kept(long v) {
-            return (int) Math.max(-BOUND, Math.min(BOUND, v));
-        }
-
-        private void push(int v) {
-            if (top < DEPTH) {
-                parts[top] = v;
-                top++;
+            if (v > BOUND) {
+                return BOUND;
             }
-        }
-
-        private int pop() {
-            if (top <= 0) {
-                return 0;
-            }
-            top--;
-            return parts[top];
+            return v < -BOUND ? -BOUND : (int) v;
         }
     }
 
@@ -1173,6 +1148,9 @@ public final class BeckChoice {
         final int[] cells = new int[CELLS];
         final int[] likes = new int[PAIRS];
         final int[] takes = new int[PAIRS];
+        // The same with less numbers ahead of those liked alike: no two of one beck, of one river are equal.
+        final int[] beckOrder = new int[PAIRS];
+        final int[] riverOrder = new int[PAIRS];
         // For each beck the rivers where both would, as bits.
         final int[] mutual = new int[BECKS_MOST];
 
@@ -1183,6 +1161,8 @@ public final class BeckChoice {
 
         void begin() {
             Arrays.fill(cells, 0);
+            // A land ahead may have had rivers that this one hasn't.
+            Arrays.fill(mutual, 0);
             for (int b = 0; b < BECKS_MOST; b++) {
                 cells[b] = b < land.becks ? land.to[b] : NONE;
             }
@@ -1196,6 +1176,8 @@ public final class BeckChoice {
             System.arraycopy(other.cells, 0, cells, 0, CELLS);
             System.arraycopy(other.likes, 0, likes, 0, PAIRS);
             System.arraycopy(other.takes, 0, takes, 0, PAIRS);
+            System.arraycopy(other.beckOrder, 0, beckOrder, 0, PAIRS);
+            System.arraycopy(other.riverOrder, 0, riverOrder, 0, PAIRS);
             System.arraycopy(other.mutual, 0, mutual, 0, BECKS_MOST);
         }
 
@@ -1244,8 +1226,11 @@ public final class BeckChoice {
         }
 
         void setLiking(int b, int r, int byBeck, int byRiver) {
-            likes[pair(b, r)] = byBeck;
-            takes[pair(b, r)] = byRiver;
+            int two = pair(b, r);
+            likes[two] = byBeck;
+            takes[two] = byRiver;
+            beckOrder[two] = byBeck * RIVERS_MOST - r;
+            riverOrder[two] = byRiver * BECKS_MOST - b;
             if (byBeck > 0 && byRiver > 0) {
                 mutual[b] |= 1 << r;
             } else {
@@ -1258,13 +1243,11 @@ public final class BeckChoice {
         }
 
         boolean likesBetter(int b, int r, int than) {
-            int more = likes[pair(b, r)] - likes[pair(b, than)];
-            return more > 0 || more == 0 && r < than;
+            return beckOrder[pair(b, r)] > beckOrder[pair(b, than)];
         }
 
         boolean takesBetter(int r, int b, int than) {
-            int more = takes[pair(b, r)] - takes[pair(than, r)];
-            return more > 0 || more == 0 && b < than;
+            return riverOrder[pair(b, r)] > riverOrder[pair(than, r)];
         }
 
         int rankOf(int b, int r) {
@@ -1279,10 +1262,14 @@ public final class BeckChoice {
 
         int leastLiked(int r, int becks) {
             int least = NONE;
+            int lowest = 0;
+            int two = r;
             for (int b = 0; b < land.becks; b++) {
-                if ((becks >> b & 1) != 0 && (least == NONE || takesBetter(r, least, b))) {
+                if ((becks >> b & 1) != 0 && (least == NONE || riverOrder[two] < lowest)) {
                     least = b;
+                    lowest = riverOrder[two];
                 }
+                two += RIVERS_MOST;
             }
             return least;
         }
@@ -1455,20 +1442,19 @@ public final class BeckChoice {
 
         /** Does a told deed: 0, or why it can't be. */
         int whyNot(long told) {
-            int answer = told < 0 || told > 499 ? WHY_NO_SUCH : doTold((int) told);
-            return answer < NONE ? WHY_NOT - answer : 0;
-        }
-
-        private int doTold(int told) {
-            int tens = told / 10 % 10;
-            int ones = told % 10;
-            switch (told / 100) {
-                case 0: return goInto(tens, ones);
-                case 1: return tens == 0 ? goOut(ones) : WHY_NO_SUCH;
-                case 2: return give(tens, ones, 1);
-                case 3: return pour(tens, ones);
-                default: return widen(tens, ones);
+            int number = told < 0 || told > 499 ? NONE : (int) told;
+            int tens = number / 10 % 10;
+            int ones = number % 10;
+            int answer = WHY_NO_SUCH;
+            switch (number < 0 ? NONE : number / 100) {
+                case 0: answer = goInto(tens, ones); break;
+                case 1: answer = tens == 0 ? goOut(ones) : WHY_NO_SUCH; break;
+                case 2: answer = give(tens, ones, 1); break;
+                case 3: answer = pour(tens, ones); break;
+                case 4: answer = widen(tens, ones); break;
+                default: break;
             }
+            return answer < NONE ? WHY_NOT - answer : 0;
         }
 
         /** Does told deeds till one can't be: how many. That one changes nothing, so it may be asked again. */
@@ -1515,16 +1501,32 @@ public final class BeckChoice {
     /** The two choices at the ends of all that hold: each side asks in turn, the other keeps the best so far. */
     private static final class Match {
         final int[] where = new int[BECKS_MOST];
-        // Becks that stand in each river, rivers each beck has asked, becks each river has asked, as bits.
+        // For each river the becks there, as bits, and how many; for each that asks whom it has asked, as bits.
         private final int[] there = new int[RIVERS_MOST];
-        private final int[] askedByBeck = new int[BECKS_MOST];
-        private final int[] askedByRiver = new int[RIVERS_MOST];
+        private final int[] crowd = new int[RIVERS_MOST];
+        private final int[] asked = new int[BECKS_MOST];
 
         private void clear() {
-            Arrays.fill(where, NONE);
-            Arrays.fill(there, 0);
-            Arrays.fill(askedByBeck, 0);
-            Arrays.fill(askedByRiver, 0);
+            for (int b = 0; b < BECKS_MOST; b++) {
+                where[b] = NONE;
+                asked[b] = 0;
+            }
+            for (int r = 0; r < RIVERS_MOST; r++) {
+                there[r] = 0;
+                crowd[r] = 0;
+            }
+        }
+
+        private void comeIn(int b, int r) {
+            where[b] = r;
+            there[r] |= 1 << b;
+            crowd[r]++;
+        }
+
+        private void goOff(int b, int r) {
+            where[b] = NONE;
+            there[r] &= ~(1 << b);
+            crowd[r]--;
         }
 
         /** Becks that don't run are nowhere. */
@@ -1547,24 +1549,29 @@ public final class BeckChoice {
         }
 
         private int nextRiver(Scene scene, int b) {
-            int open = scene.mutual[b] & ~askedByBeck[b];
+            int open = scene.mutual[b] & ~asked[b];
+            int row = pair(b, 0);
             int best = NONE;
-            for (int r = 0; r < scene.land.rivers; r++) {
-                if ((open >> r & 1) != 0 && (best == NONE || scene.likesBetter(b, r, best))) {
+            int highest = 0;
+            for (int r = 0; open >> r != 0 && r < RIVERS_MOST; r++) {
+                if ((open >> r & 1) != 0 && (best == NONE || scene.beckOrder[row + r] > highest)) {
                     best = r;
+                    highest = scene.beckOrder[row + r];
                 }
             }
             return best;
         }
 
+        /** Who must go on for it, if the room is too small. */
         private int admit(Scene scene, int b, int r) {
-            askedByBeck[b] |= 1 << r;
-            where[b] = r;
-            there[r] |= 1 << b;
-            int out = Integer.bitCount(there[r]) <= scene.roomOf(r) ? NONE : scene.leastLiked(r, there[r]);
+            asked[b] |= 1 << r;
+            comeIn(b, r);
+            if (crowd[r] <= scene.roomOf(r)) {
+                return NONE;
+            }
+            int out = scene.leastLiked(r, there[r]);
             if (out != NONE) {
-                where[out] = NONE;
-                there[r] &= ~(1 << out);
+                goOff(out, r);
             }
             return out;
         }
@@ -1581,18 +1588,17 @@ public final class BeckChoice {
         }
 
         private boolean asksOne(Scene scene, int r) {
-            int b = Integer.bitCount(there[r]) < scene.roomOf(r) ? nextBeck(scene, r) : NONE;
+            int b = crowd[r] < scene.roomOf(r) ? nextBeck(scene, r) : NONE;
             if (b == NONE) {
                 return false;
             }
-            askedByRiver[r] |= 1 << b;
+            asked[r] |= 1 << b;
             int from = where[b];
-            if (from == NONE || scene.likesBetter(b, r, from)) {
-                if (from != NONE) {
-                    there[from] &= ~(1 << b);
-                }
-                where[b] = r;
-                there[r] |= 1 << b;
+            if (from == NONE) {
+                comeIn(b, r);
+            } else if (scene.likesBetter(b, r, from)) {
+                goOff(b, from);
+                comeIn(b, r);
             }
             return true;
         }
@@ -1600,7 +1606,7 @@ public final class BeckChoice {
         private int nextBeck(Scene scene, int r) {
             int best = NONE;
             for (int b = 0; b < scene.land.becks; b++) {
-                boolean open = scene.bothWould(b, r) && (askedByRiver[r] >> b & 1) == 0;
+                boolean open = scene.bothWould(b, r) && (asked[r] >> b & 1) == 0;
                 if (open && (best == NONE || scene.takesBetter(r, b, best))) {
                     best = b;
                 }
