@@ -159,6 +159,9 @@ public final class BeckChoiceAgainstNaive {
             due("gains(" + b + ")", x.gains(b), y.gains(b));
             due("lie(" + b + ")", x.lie(b), y.lie(b));
         }
+        if (y.count(0) * y.count(1) > 16) {
+            return;
+        }
         int r = near(3);
         int enough = upTo(9) == 0 ? near(99) : upTo(20);
         due("woos(" + r + ", " + enough + ", 0)", x.woos(r, enough, 0), y.woos(r, enough, 0));
@@ -324,7 +327,10 @@ public final class BeckChoiceAgainstNaive {
             new BeckChoiceAgainstNaive(run++, 4, 4, true).play(60);
         }
         for (int i = 0; i < 40 * scale; i++) {
-            new BeckChoiceAgainstNaive(run++, 6, 4, false).play(30);
+            new BeckChoiceAgainstNaive(run++, 6, 4, true).play(20);
+        }
+        for (int i = 0; i < 12 * scale; i++) {
+            new BeckChoiceAgainstNaive(run++, 6, 1 + i % 2, true).play(12);
         }
         for (int i = 0; i < 60 * scale; i++) {
             new BeckChoiceAgainstNaive(run++, 5, 2, true).play(20);

@@ -161,6 +161,9 @@ public final class BeckChoicePromises {
         due("brackets", likesBy("if [1=1 or 1=1] and 1=2 then 5 else 6 end"), 6);
         due("not of a unit alone", likesBy("if not 1=2 and 1=2 then 5 else 6 end"), 6);
         due("not not", likesBy("if not not 1=1 then 5 else 6 end"), 5);
+        due("and of two kinds", likesBy("if 1=1 and 1<2 and 2>1 then 5 else 6 end"), 5);
+        due("not of what is", likesBy("if not 1=1 then 5 else 6 end"), 6);
+        due("not of either", likesBy("if not [1=1 or 1<2] then 5 else 6 end"), 6);
         due("six within", likesBy("((((((8))))))"), 8);
         due("six, and six again", likesBy("((((((8))))))+((((((8))))))"), 16);
         due("if in a comparison", likesBy("if if 1=1 then 3 else 4 end=3 then 5 else 6 end"), 5);
@@ -192,6 +195,12 @@ public final class BeckChoicePromises {
         faulty("land ", 2, 5);
         faulty("land;land;", 2, 5);
         faulty("land;;", 2, 5);
+        faulty("land;az;", 2, 5);
+        faulty("land;za;", 2, 5);
+        faulty("land;`;", 1, 5);
+        faulty("land;{;", 1, 5);
+        faulty("land;/;", 1, 5);
+        faulty("land;:;", 2, 5);
         faulty("land;beck flow 1\t;", 1, 16);
         faulty("land;beck flow 1234;", 1, 15);
         faulty("land;beck flow x 1234;", 2, 15);
@@ -633,6 +642,12 @@ public final class BeckChoicePromises {
         due("liars()", of(CROSSED).liars(), 3);
         due("liars() of plain", of(PLAIN).liars(), 0);
         due("liars() of none", new BeckChoice().liars(), 0);
+        // The two pairs of CROSSED with names and marks 1 to 4: each pair would rather stay as its becks like it.
+        due("liars() of six", of("land;river room 1 name 1;river room 1 name 2;river room 1 name 3;river room 1 name 4;"
+            + "beck flow 1 mark 1;beck flow 1 mark 2;beck flow 1 mark 3;beck flow 1 mark 4;beck flow 0;beck flow 0;"
+            + "likes:if name=mark then 9 else if name+mark=3 or name+mark=7 and name>2 then 5 else 1 end end;"
+            + "takes:if flow=0 then 0 else if name=mark then 1 else if name+mark=3 or name+mark=7 and name>2 then 9"
+            + " else 1 end end end;").liars(), 15);
     }
 
     private static void promise33() {
