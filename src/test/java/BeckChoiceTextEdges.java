@@ -527,6 +527,9 @@ public final class BeckChoiceTextEdges {
         truthFault("1=1 and ^or 1=1");
         truthFault("1=1 ^1=1");
         truthFault("1=1 ^not 1=1");
+        truthFault("1=1 ^xor 1=1");
+        truthFault("1=1 ^o 1=1");
+        truthFault("1=1 ^nd 1=1");
         E.says(3, "UNIT: not UNIT, [ TRUTH ], or SUM, one of = < >, SUM.");
         truth("2=2", true);
         truth("2=3", false);

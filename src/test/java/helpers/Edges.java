@@ -84,6 +84,9 @@ final class Edges {
         endSentence();
         System.out.println(sentences + " sentences, " + answers + " answers, "
             + (wrong == 0 ? "all as due" : wrong + " not as due"));
+        if (wrong != 0 && Boolean.getBoolean("edges.throw")) {
+            throw new IllegalStateException("not as due");
+        }
         if (wrong != 0) {
             System.exit(1);
         }
