@@ -324,6 +324,10 @@ public final class BeckChoiceSupposedEdges {
             + " mark-5 end*beck;", 1, NONE, 1), 0);
         E.due("ask, five against five ahead of three", asked("land;river room 1;river room 1;beck flow 1;likes:if river=0"
             + " then mark-4 else mark-6 end;takes:0;", 0, NONE), 0);
+        for (int b = 0; b < 6; b++) {
+            E.due("ask about beck " + b + " of six, with four rivers", asked("land;" + Edges.times(4, "river room 6;") + SIX
+                + "likes:if river=3 then mark-4 else 9-river end;", b, 0, 0, 0, 0, 0, 0), 3);
+        }
         E.due("ask, one mark alone", asked("land;river room 1;river room 1;beck flow 1;likes:1-mark;", 0, 0), 0);
         BeckChoice again = E.of("land;river room 1;river room 1;beck flow 1;likes:if river=0 then mark-6 else 2-mark end;");
         for (int i = 0; i < 3; i++) {
